@@ -448,7 +448,7 @@ public final class PaperHouses {
 
     /** The bytes that have come, and the reader that makes a paper of them or says where they fail. */
     private static final class Tape {
-        private static final int END = -1, NO_TOKEN = -2, NUMBER = -3;
+        private static final int END = -1, NUMBER = -2, TOO_LONG = -3;
         private static final int MISPLACED = 1, UNTOLD = 2, TOO_MANY = 3;
 
         private final int[] bytes = new int[MOST_BYTES];
@@ -541,13 +541,11 @@ public final class PaperHouses {
             return true;
         }
 
-        // The value stays to be taken when the reader is past the number already.
+        // The value stays when the reader is past it: no number stands right behind another.
         private boolean passNumber(int least, int most) {
             if (token != NUMBER) return fail(MISPLACED);
             if (value < least || value > most) return fail(UNTOLD);
-            int told = value;
             step();
-            value = told;
             return true;
         }
 
@@ -557,19 +555,13 @@ public final class PaperHouses {
             return false;
         }
 
+        // A byte that is no token is taken as it is, as it can't stand anywhere.
         private void step() {
             at += width;
             width = 1;
-            if (at >= length) {
-                token = END;
-                width = 0;
-            } else if (isFigure(at)) {
-                lookAtNumber();
-            } else {
-                int letter = bytes[at];
-                boolean known = letter >= 'a' && letter <= 'z' || letter == ',' || letter == ';';
-                token = known ? letter : NO_TOKEN;
-            }
+            if (at >= length) token = END;
+            else if (isFigure(at)) lookAtNumber();
+            else token = bytes[at];
         }
 
         private void lookAtNumber() {
@@ -578,7 +570,7 @@ public final class PaperHouses {
             if (!isFigure(at + 1)) return;
             value = value * 10 + bytes[at + 1] - '0';
             width = 2;
-            if (isFigure(at + 2)) token = NO_TOKEN;
+            if (isFigure(at + 2)) token = TOO_LONG;
         }
 
         private boolean isFigure(int place) {
