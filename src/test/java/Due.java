@@ -1,13 +1,30 @@
+import java.io.IOException;
+import java.nio.charset.StandardCharsets;
+import java.nio.file.Files;
+import java.nio.file.Path;
+
 /** Counts answers that are not the ones that are due; a test ends with it. */
 final class Due {
+    private static final Path DOCUMENT = Path.of("../shared/DOC.md");
+
+    private final String document = document();
+    private String sentence = "";
+    private int sentences;
     private int wrong;
     private int looked;
+
+    /** What is looked at from now on is this sentence of the document, in the words that stand there. */
+    void says(String words) {
+        sentence = words + ": ";
+        sentences++;
+        if (!document.isEmpty()) holds("it stands in the document", document.contains(words));
+    }
 
     void is(String call, int got, int want) {
         looked++;
         if (got == want) return;
         wrong++;
-        if (wrong <= 40) System.out.println(call + " answered " + got + ", due is " + want);
+        if (wrong <= 40) System.out.println(sentence + call + " answered " + got + ", due is " + want);
     }
 
     void holds(String what, boolean so) {
@@ -15,8 +32,18 @@ final class Due {
     }
 
     void end() {
+        if (sentences > 0) System.out.print(sentences + " sentences, ");
         System.out.println(looked + " looked at, " + wrong + " not as due");
         if (wrong != 0 || looked == 0) System.exit(1);
+    }
+
+    // The tests stand without the document, too: then the words are not looked up.
+    private static String document() {
+        try {
+            return Files.isReadable(DOCUMENT) ? Files.readString(DOCUMENT, StandardCharsets.UTF_8) : "";
+        } catch (IOException e) {
+            return "";
+        }
     }
 
     static void feed(PaperHouses x, String text) {

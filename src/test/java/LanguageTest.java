@@ -37,7 +37,10 @@ public final class LanguageTest {
         DUE.holds("its constructor", Modifier.isPublic(made.getModifiers()) && made.getParameterCount() == 0);
         Set<String> methods = new TreeSet<>();
         for (Method m : c.getDeclaredMethods()) {
-            if (Modifier.isPrivate(m.getModifiers())) continue;
+            if (Modifier.isPrivate(m.getModifiers())) {
+                DUE.holds(m + " bears no public name", !FACE.matches(".*\\b" + m.getName() + "\\d.*"));
+                continue;
+            }
             DUE.holds(m.getName() + " is public and of ints", Modifier.isPublic(m.getModifiers()) && !Modifier.isStatic(m.getModifiers())
                 && m.getReturnType() == int.class && Arrays.stream(m.getParameterTypes()).allMatch(t -> t == int.class));
             methods.add(m.getName() + m.getParameterCount());
