@@ -25,7 +25,7 @@ public final class LanguageTest {
         classesInside();
         String source = Files.readString(Path.of("src/main/java/PaperHouses.java"), StandardCharsets.ISO_8859_1);
         text(source);
-        methodsAreShort(source);
+        methodsAreShortAndMakeNothing(source);
         DUE.end();
     }
 
@@ -101,7 +101,7 @@ public final class LanguageTest {
         while (library.find()) DUE.holds(library.group(), listed.contains(library.group()));
     }
 
-    private static void methodsAreShort(String source) {
+    private static void methodsAreShortAndMakeNothing(String source) {
         String[] lines = source.split("\n");
         for (int i = 0; i < lines.length; i++) {
             Matcher head = Pattern.compile("^( +)[\\w\\[\\] ]+\\(.*\\) \\{$").matcher(lines[i]);
@@ -109,6 +109,9 @@ public final class LanguageTest {
             int end = i;
             while (!lines[end].equals(head.group(1) + "}")) end++;
             DUE.holds("short: " + lines[i].trim(), end - i <= 60);
+            if (lines[i].matches(" +(public|private) \\w+\\(.*")) continue;
+            // What a run makes is counted: only constructors make objects, so calls may be as many as they like.
+            for (int k = i; k < end; k++) DUE.holds("makes no object: " + lines[k].trim(), !lines[k].matches(".*\\bnew\\b.*"));
         }
     }
 }
